@@ -1940,6 +1940,7 @@ public final class JudoHall {
         private final Row ends;
         private final Row matFree;
         private final Row fighterFree;
+        private final Row earliest;
         private Row mats;
         private Row begins;
         private Row newMats;
@@ -1955,6 +1956,7 @@ public final class JudoHall {
             ends = new Row(Board.SLOTS, NONE);
             matFree = new Row(MATS, 0);
             fighterFree = new Row(PEOPLE, 0);
+            earliest = new Row(Board.SLOTS, 0);
             mats = new Row(Board.SLOTS, NONE);
             begins = new Row(Board.SLOTS, NONE);
             newMats = new Row(Board.SLOTS, NONE);
@@ -1974,6 +1976,9 @@ public final class JudoHall {
             clear();
             putOpenOnes();
             putInOrder();
+            for (int c = 0; c < CLASSES; c++) {
+                findEarliest(c);
+            }
             int minute = book.at(Book.MINUTE);
             for (int turn = 0; turn < 2 * Board.SLOTS && ordered > 0; turn++) {
                 putFrom(m, minute);
@@ -2058,15 +2063,17 @@ public final class JudoHall {
                 int place = matFree.get(k) <= minute ? firstThatMay(minute) : NONE;
                 if (place != NONE) {
                     int slot = order.get(place);
-                    put(slot / Board.FIGHTS, slot % Board.FIGHTS, k, minute);
+                    int c = slot / Board.FIGHTS;
+                    put(c, slot % Board.FIGHTS, k, minute);
                     takeOutOfOrder(place);
+                    findEarliest(c);
                 }
             }
         }
 
         private int firstThatMay(int minute) {
             for (int place = 0; place < ordered; place++) {
-                if (earliest(order.get(place)) <= minute) {
+                if (earliest.get(order.get(place)) <= minute) {
                     return place;
                 }
             }
@@ -2092,17 +2099,19 @@ public final class JudoHall {
         private int soonestFight() {
             int soonest = NEVER;
             for (int place = 0; place < ordered; place++) {
-                soonest = Math.min(soonest, earliest(order.get(place)));
+                soonest = Math.min(soonest, earliest.get(order.get(place)));
             }
             return soonest;
         }
 
-        private int earliest(int slot) {
-            int c = slot / Board.FIGHTS;
-            int i = slot % Board.FIGHTS;
-            int free = Math.max(freeFrom(board.whiteOf(c, i)), freeFrom(board.blueOf(c, i)));
-            int behind = Math.max(behindFight(c, board.aheadOf(c, i, 0)), behindFight(c, board.aheadOf(c, i, 1)));
-            return Math.max(free, behind);
+        /** A FIGHT that is put hinders those of its class alone: no FIGHTER has two classes. */
+        private void findEarliest(int c) {
+            for (int i = 0; i < board.fightsOf(c); i++) {
+                int free = Math.max(freeFrom(board.whiteOf(c, i)), freeFrom(board.blueOf(c, i)));
+                int first = behindFight(c, board.aheadOf(c, i, 0));
+                int second = behindFight(c, board.aheadOf(c, i, 1));
+                earliest.set(Board.slot(c, i), Math.max(free, Math.max(first, second)));
+            }
         }
 
         private int freeFrom(int f) {
