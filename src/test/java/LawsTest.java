@@ -14,6 +14,9 @@ public final class LawsTest {
         faultsOfOneToken();
         lawsAsAct();
         latestText();
+        cutTexts();
+        wholeRoomIsWorked();
+        leftoversOfFaults();
         check.end();
     }
 
@@ -93,6 +96,8 @@ public final class LawsTest {
         sound(HEAD + "win when ((((((((over))))))));", 1, 0, 1);
         sound(HEAD + "win when not(not(not(not(over))))and not over;", 1, 0, 8);
         sound(HEAD + "win when not not not not not not not not 1<2 and not not not not not not not not over;", 1, 0, 21);
+        sound(HEAD + "sign aver;sign bime;sign dign;sign fin;sign ahen;sign ar;sign bnd;sign lot;", 0, 8, 0);
+        sound(HEAD + "sign axtra;sign pine;sign zours;sign heft;sign bolden;sign a;sign b;win when mine b=0;", 1, 7, 3);
         sound(HEAD + "sign timer;sign overs;sign wins;win when mine timer=0;", 1, 3, 3);
     }
 
@@ -259,5 +264,53 @@ public final class LawsTest {
         check.due("undo", x.undo(), 0);
         check.due("fault stays", x.fault(0), 1);
         check.due("place stays", x.fault(1), 4);
+    }
+
+    private static void cutTexts() {
+        JudoHall x = new JudoHall();
+        Check.put(x, "time 1;golden 2;sign ab;sign abc;");
+        x.end(29);
+        check.due("cut in a word", x.laws(), Check.NONE);
+        check.due("no further than the end", x.fault(1), 29);
+        Check.put(x, "time 1;golden 12345;");
+        x.end(18);
+        check.due("cut in a number", x.laws(), Check.NONE);
+        check.due("four digits are left", x.fault(1), 18);
+        Check.put(x, "time 1;golden 2;win when 1<=1;");
+        x.end(27);
+        check.due("cut in a sign", x.laws(), Check.NONE);
+        check.due("the sign is there", x.fault(1), 27);
+    }
+
+    /** A fight by these laws, and one event: the line that ends it. */
+    private static int lineBehindOneSign(JudoHall x, String text) {
+        Check.laws(x, text);
+        Check.fill(x, 0, 2);
+        x.draw(0);
+        x.begin(0, 0, 0);
+        return x.event(0, 1, 0);
+    }
+
+    private static void wholeRoomIsWorked() {
+        JudoHall x = new JudoHall();
+        String text = HEAD + "sign a;win when " + many("1=2 or ", 72) + "1=2 and 1=1;win 9 when not not yours a=1;";
+        check.due("the last of 300 PARTS", lineBehindOneSign(x, text), 1);
+        check.due("parts", x.count(5), 300);
+        check.due("winner", x.fight(0, 0, 2), 0);
+        check.due("points", x.fight(0, 0, 5), 9);
+        JudoHall y = new JudoHall();
+        check.due("line 19", lineBehindOneSign(y, HEAD + "sign a;" + many("win when over;", 19) + "win 4 when mine a>0;"), 19);
+        JudoHall z = new JudoHall();
+        String deep = "not(not(not(not(1=2 or 1=1 and 1=2 or mine a>0 and 1+1+1-1=2))))";
+        check.due("eight open", lineBehindOneSign(z, HEAD + "sign a;win when " + deep + ";"), 0);
+    }
+
+    private static void leftoversOfFaults() {
+        for (String cut : new String[] {"win when 1+", "win when 1=1 and ", "win when not ", "win when (", "win when 1=", "win 7 "}) {
+            JudoHall x = new JudoHall();
+            check.due(cut, Check.laws(x, HEAD + "sign b;" + cut), Check.NONE);
+            check.due("behind " + cut, lineBehindOneSign(x, HEAD + "sign a;win when 1+1=3;win when mine a=1 and 2=2;"), 1);
+            check.due("points behind " + cut, x.fight(0, 0, 5), 1);
+        }
     }
 }
