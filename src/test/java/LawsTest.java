@@ -269,9 +269,14 @@ public final class LawsTest {
     private static void cutTexts() {
         JudoHall x = new JudoHall();
         Check.put(x, "time 1;golden 2;sign ab;sign abc;");
-        x.end(29);
+        x.end(31);
         check.due("cut in a word", x.laws(), Check.NONE);
-        check.due("no further than the end", x.fault(1), 29);
+        check.due("what is left is there already", x.fault(0), 2);
+        check.due("at its place", x.fault(1), 29);
+        Check.put(x, "time 1    ");
+        x.end(6);
+        check.due("cut ahead of blanks", x.laws(), Check.NONE);
+        check.due("no further than the end", x.fault(1), 6);
         Check.put(x, "time 1;golden 12345;");
         x.end(18);
         check.due("cut in a number", x.laws(), Check.NONE);

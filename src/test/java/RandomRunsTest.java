@@ -20,6 +20,7 @@ public final class RandomRunsTest {
         for (long n = first; n < first + 10L * runs && n < first + TEXTS && wrong < 3; n += 20) {
             wrong += new RandomRunsTest(n).texts(n) ? 0 : 1;
         }
+        for (int first96 = 0; first96 < 4 && wrong < 3; first96++) wrong += new RandomRunsTest(first96).fullHouse(first96) ? 0 : 1;
         System.out.println(wrong == 0 ? "random runs: all alike" : "random runs: " + wrong + " went apart");
         if (wrong != 0) System.exit(1);
     }
@@ -119,6 +120,31 @@ public final class RandomRunsTest {
             both.lookAtAll();
         }
         if (both.apart) System.out.println("run " + n);
+        return !both.apart;
+    }
+
+    /** All 96 fighters, in three or four classes, and all their fights; then all is taken back. */
+    private boolean fullHouse(int without) {
+        both.laws("time 3;golden 2;sign ippon;sign shido;win 10 when mine ippon > 0;win when yours shido >= 3;");
+        both.rest(0);
+        for (int k = 0; k < 96; k++) {
+            int c = without == 0 ? k % 4 : k % 3 < without ? k % 3 : k % 3 + 1;
+            both.weigh(both.enter(in(0, 15), c), in(900, 1000));
+            if (oneOf(9)) both.seed(k, in(1, 8));
+        }
+        for (int c = 0; c < 4; c++) both.draw(c);
+        both.plan(4, 5);
+        both.lookAtAll();
+        for (int k = 0; k < 100 && !inState(1).isEmpty() && !both.apart; k++) {
+            for (int m = 0; m < 4; m++) beginSome();
+            for (int turn = 0; turn < 9; turn++) fightOn(in(0, 3));
+            if (k % 20 == 0) both.lookAtAll();
+        }
+        both.plan(1, 60);
+        both.lookAtAll();
+        while (!both.apart && both.undo() > 0) if (oneOf(100)) both.lookAtAll();
+        both.lookAtAll();
+        if (both.apart) System.out.println("full house " + without);
         return !both.apart;
     }
 
