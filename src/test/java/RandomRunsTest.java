@@ -21,6 +21,7 @@ public final class RandomRunsTest {
             wrong += new RandomRunsTest(n).texts(n) ? 0 : 1;
         }
         for (int first96 = 0; first96 < 4 && wrong < 3; first96++) wrong += new RandomRunsTest(first96).fullHouse(first96) ? 0 : 1;
+        for (int many = 2; many <= 32 && wrong < 3; many++) wrong += new RandomRunsTest(many).wholeClass(many) ? 0 : 1;
         System.out.println(wrong == 0 ? "random runs: all alike" : "random runs: " + wrong + " went apart");
         if (wrong != 0) System.exit(1);
     }
@@ -145,6 +146,31 @@ public final class RandomRunsTest {
         while (!both.apart && both.undo() > 0) if (oneOf(100)) both.lookAtAll();
         both.lookAtAll();
         if (both.apart) System.out.println("full house " + without);
+        return !both.apart;
+    }
+
+    /** A class of so many, fought to its end, with results struck on the way and all taken back. */
+    private boolean wholeClass(int many) {
+        int c = many % 4;
+        both.laws(Check.IPPON);
+        both.rest(in(0, 1));
+        fill(c, many, in(1, 16));
+        for (int f = 0; f < many; f++) both.weigh(f, in(500, 502));
+        both.draw(c);
+        for (int k = 0; k < 90 && !both.apart && !inState(1).isEmpty(); k++) {
+            beginSome();
+            for (int m = 0; m < 4; m++) both.event(m, in(0, 1), 0);
+            both.now(k);
+            if (oneOf(15)) strikeSome();
+            if (oneOf(15)) both.plan(in(1, 4), in(1, 9));
+            if (oneOf(6)) both.lookAtAll();
+        }
+        both.lookAtAll();
+        int medals = Math.min(many, 4);
+        for (int k = 0; k < medals; k++) both.apart |= both.medal(c, k) == Check.NONE;
+        while (!both.apart && both.undo() > 0) if (oneOf(60)) both.lookAtAll();
+        both.lookAtAll();
+        if (both.apart) System.out.println("whole class of " + many);
         return !both.apart;
     }
 
