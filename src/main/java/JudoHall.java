@@ -67,6 +67,8 @@ public final class JudoHall {
 
     public int laws() {
         if (floor.openFights() > 0) {
+            // THE TAPE is read, and so gone, though its text is not looked at: the FAULT stays
+            tape.length = 0;
             return STATE;
         }
         boolean sound = parser.readLaws();
@@ -211,7 +213,7 @@ public final class JudoHall {
             case 0: return roll.fightersOf(c);
             case 1: return roll.weighedOf(c);
             case 2: return board.kindOf(c);
-            case 3: return board.sizeOf(c);
+            case 3: return board.isDrawn(c) ? board.sizeOf(c) : NONE;
             case 4: return board.fightsOf(c);
             case 5: return board.howMany(c, Board.DONE);
             case 6: return board.howMany(c, Board.WALK);

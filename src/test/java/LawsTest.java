@@ -13,6 +13,7 @@ public final class LawsTest {
         roomFaults();
         faultsOfOneToken();
         lawsAsAct();
+        textNotLookedAt();
         latestText();
         cutTexts();
         wholeRoomIsWorked();
@@ -226,10 +227,12 @@ public final class LawsTest {
         check.due("begin", x.begin(0, 0, 2), 1);
         Check.put(x, "time");
         check.due("laws while OPEN", x.laws(), Check.STATE);
-        check.due("unread tape stays", x.count(8), 4);
+        check.due("the tape is read", x.count(8), 0);
+        check.due("bytes behind an empty tape", x.feed(0, 0, 0, 0, 0), 20);
         check.due("fault stays", x.fault(0), 0);
+        check.due("fault's place stays", x.fault(1), Check.NONE);
         x.event(2, 0, 0);
-        check.due("laws when closed", x.laws(), Check.NONE);
+        check.due("laws when closed", Check.laws(x, "time"), Check.NONE);
         check.due("fault", x.fault(1), 4);
         check.due("old laws stay", x.count(4), 1);
         check.due("other laws", Check.laws(x, HEAD + "win when over;win when extra;"), 2);
@@ -246,6 +249,21 @@ public final class LawsTest {
         check.due("fault of the refused text", x.fault(0), 0);
         check.due("refused text is read", x.count(8), 0);
         check.due("laws stay", x.count(4), 1);
+    }
+
+    /** A text that met an OPEN FIGHT is gone, but the FAULT told is still that of the text before. */
+    private static void textNotLookedAt() {
+        JudoHall x = Check.drawn(0, 2);
+        Check.laws(x, HEAD + "sign a;sign a;");
+        x.begin(0, 0, 2);
+        check.due("sound laws while OPEN", Check.laws(x, HEAD + "win when over;"), Check.STATE);
+        check.due("fault of the text before", x.fault(0), 2);
+        check.due("place in the text before", x.fault(1), 16 + 12);
+        Check.fillLog(x);
+        check.due("STATE ahead of FULL", Check.laws(x, HEAD), Check.STATE);
+        check.due("read with a full log, too", x.count(8), 0);
+        x.undo();
+        check.due("undo brings no bytes back", x.count(8), 0);
     }
 
     private static void latestText() {

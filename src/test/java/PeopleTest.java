@@ -271,7 +271,7 @@ public final class PeopleTest {
         x.enter(0, 1);
         check.due("fighters", x.about(0, 0), 3);
         check.due("weighed", x.about(0, 1), 1);
-        for (int w = 2; w <= 6; w++) check.due("not drawn " + w, x.about(0, w), 0);
+        for (int w = 2; w <= 6; w++) check.due("not drawn " + w, x.about(0, w), w == 3 ? Check.NONE : 0);
         check.due("place ahead of the draw", x.about(0, 100), Check.NONE);
         check.due("what 7", x.about(0, 7), Check.NONE);
         check.due("what -1", x.about(0, -1), Check.NONE);
@@ -279,6 +279,11 @@ public final class PeopleTest {
         check.due("class 4", x.about(4, 0), Check.NONE);
         check.due("class -1", x.about(-1, 0), Check.NONE);
         JudoHall y = Check.drawn(0, 7);
+        check.due("S", y.about(0, 3), 8);
+        check.due("S of another class", y.about(1, 3), Check.NONE);
+        y.undo();
+        check.due("S of a draw taken back", y.about(0, 3), Check.NONE);
+        y.draw(0);
         check.due("place 8 of 8", y.about(0, 108), Check.NONE);
         check.due("what MIN", y.about(0, Integer.MIN_VALUE), Check.NONE);
         check.due("what MAX", y.about(0, Integer.MAX_VALUE), Check.NONE);

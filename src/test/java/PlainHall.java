@@ -289,9 +289,9 @@ final class PlainHall {
     }
 
     int laws() {
-        if (count(6) > 0) return STATE;
         String text = tape.toString();
         tape.setLength(0);
+        if (count(6) > 0) return STATE;
         Text read;
         try {
             read = new Telling(text).all();
@@ -463,7 +463,7 @@ final class PlainHall {
         if (what == 0) return of(c, false).size();
         if (what == 1) return of(c, true).size();
         if (what == 2) return g.kind;
-        if (what == 3) return g.places.length;
+        if (what == 3) return g.kind == 0 ? NONE : g.places.length;
         if (what == 4) return g.bouts.length;
         if (what == 5 || what == 6) {
             int found = 0;
