@@ -60,7 +60,78 @@ final class Check {
     }
 
     /** Fills THE LOG up to its 500 entries. */
-    static void fillLog(JudoHall hall) {
-        for (int k = 0; k < 500 && hall.count(7) < 500; k++) hall.now(hall.count(1));
+    static void fillLog(JudoHall hall) { fillLog(hall, 500); }
+
+    /** Two looks alone: an object is good for 512 calls, and 500 of them are THE LOG's. */
+    static void fillLog(JudoHall hall, int entries) {
+        int minute = hall.count(1);
+        for (int k = hall.count(7); k < entries; k++) hall.now(minute);
+    }
+
+    // ---- edges
+
+    /** Makes the same hall as often as it is asked. */
+    interface Made { JudoHall hall(); }
+
+    interface Call { int on(JudoHall hall); }
+
+    /** A refused call: its answer, and that all that can be asked of the hall is as it was without it. */
+    void refused(String what, Made made, Call call, int want) {
+        due(what, call.on(made.hall()), want);
+        for (int part = 0; part < Sight.PARTS; part++) {
+            JudoHall hall = made.hall();
+            call.on(hall);
+            int[] before = Sight.of(made.hall(), part);
+            int[] behind = Sight.of(hall, part);
+            for (int k = 0; k < before.length; k++) due(what + ", then look " + part + "." + k, behind[k], before[k]);
+        }
+    }
+
+    /** An ACT at the edge of THE LOG: its 500th entry is made, its 501st is FULL, and made once there is room. */
+    void act(String what, Made made, Call call, int want) {
+        JudoHall x = made.hall();
+        fillLog(x, 499);
+        due(what + " as the 500th entry", call.on(x), want);
+        due(what + " makes one entry", x.count(7), 500);
+        JudoHall y = made.hall();
+        fillLog(y, 500);
+        due(what + " as the 501st entry", call.on(y), FULL);
+        due(what + " makes no entry", y.count(7), 500);
+        due("undo behind " + what, y.undo(), 499);
+        due(what + " with room again", call.on(y), want);
+    }
+
+    /** A refusal of an ACT that comes ahead of FULL. */
+    void aheadOfFull(String what, Made made, Call call, int want) {
+        JudoHall x = made.hall();
+        fillLog(x, 500);
+        due(what + " ahead of FULL", call.on(x), want);
+        due(what + " makes no entry", x.count(7), 500);
+    }
+
+    /** In the middle of a day: a bit of everything that a refused call could spoil. */
+    static JudoHall busy() {
+        JudoHall x = new JudoHall();
+        laws(x, "time 5;golden 3;sign a;sign b;win 10 when mine a>0;win when yours b>2;");
+        fill(x, 0, 4);
+        fill(x, 1, 6);
+        x.limit(2, 1000, 2000);
+        x.weigh(x.enter(5, 2), 1500);
+        x.weigh(x.enter(5, 2), 999);
+        x.enter(6, 2);
+        x.seed(10, 1);
+        x.draw(0);
+        x.draw(1);
+        win(x, 0, 0, 0);
+        laws(x, "time 1; x");
+        x.now(30);
+        x.begin(0, 1, 0);
+        x.event(0, 1, 1);
+        x.begin(1, 1, 1);
+        x.tick(1, 5);
+        x.tick(1, 3);
+        x.plan(2, 5);
+        x.feed(1, 2, 3, 4, 5);
+        return x;
     }
 }
