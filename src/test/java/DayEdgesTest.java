@@ -24,6 +24,8 @@ public final class DayEdgesTest {
         doneAndWalksAreNotPlanned();
         stepsBehindTheirHalf();
         stagesInOrder();
+        stagesOfLargeTrees();
+        planBehindAPlan();
         largestPlan();
         noPlan();
         plannedOfAnotherWhat();
@@ -31,6 +33,7 @@ public final class DayEdgesTest {
         latestPlanThatToldAMinute();
         undoOfNone();
         undoOfAll();
+        undoOfALongDay();
         undoLeaves();
         undoneAndDoneAgain();
         countOfAnotherWhat();
@@ -330,6 +333,53 @@ public final class DayEdgesTest {
         for (int k = 0; k < order.length; k++) at("in order", x, order[k][0], order[k][1], 0, k);
     }
 
+    /** "STAGE: of a TREE its round, of the FINAL 20, of second lives 10 and the step": each ahead of the other CLASS's next. */
+    private static void stagesOfLargeTrees() {
+        int[] sizes = {32, 16, 32};
+        JudoHall x = new JudoHall();
+        x.rest(0);
+        for (int c = 0; c < 3; c++) drawMore(x, c, sizes[c]);
+        check.due("all by one MAT", x.plan(1, 1), 37 + 19 + 37);
+        int minute = 0;
+        for (int stage = 0; stage <= 20; stage++) {
+            for (int c = 0; c < 3; c++) {
+                for (int i = 0; i < 37; i++) {
+                    if (stageOf(sizes[c], i) == stage) {
+                        check.due("minute of " + c + " " + i, x.planned(c, i, 1), minute);
+                        minute++;
+                    }
+                }
+            }
+        }
+        check.due("all were looked at", minute, 37 + 19 + 37);
+    }
+
+    private static int stageOf(int size, int i) {
+        int steps = size == 16 ? 2 : 3;
+        if (i == size - 2) return 20;
+        if (i > size - 2) return i < size - 1 + 2 * steps ? 11 + (i - size + 1) % steps : -1;
+        int round = 0;
+        for (int first = size / 2; first <= i; first += size >> (round + 1)) round++;
+        return round;
+    }
+
+    /** Nothing of the plan before is in the next one: FIGHT 1, whose FIGHTERS rest now, is still ahead of FIGHT 4. */
+    private static void planBehindAPlan() {
+        JudoHall x = Check.drawn(0, 8);
+        x.rest(10);
+        check.due("the plan before", x.plan(4, 1), 23);
+        Check.win(x, 0, 0, 0);
+        x.now(100);
+        Check.win(x, 0, 1, 0);
+        x.strike(0, 1);
+        x.plan(1, 1);
+        at("who don't rest", x, 0, 2, 0, 100);
+        at("who don't rest", x, 0, 3, 0, 101);
+        at("who rest", x, 0, 1, 0, 110);
+        at("behind 2 and 3", x, 0, 5, 0, 112);
+        at("behind 1 alone", x, 0, 4, 0, 121);
+    }
+
     /** "NONE: it would be above 100000": the longest plan that 96 FIGHTERS can make is far below that. */
     private static void largestPlan() {
         JudoHall x = new JudoHall();
@@ -428,6 +478,28 @@ public final class DayEdgesTest {
             int[] behind = Sight.of(undone.hall(), part);
             for (int k = 0; k < before.length; k++) check.due("look " + part + "." + k, behind[k], before[k]);
         }
+    }
+
+    /** Many ACTS that change much: a whole tree of 32, and back. */
+    private static void undoOfALongDay() {
+        JudoHall x = Check.drawn(0, 32);
+        for (int i = 0; i < 37; i++) {
+            x.begin(0, i, i % 4);
+            x.event(i % 4, i % 2, 0);
+        }
+        check.due("all DONE", x.about(0, 5), 37);
+        for (int k = 0; k < 74; k++) x.undo();
+        for (int i = 0; i < 37; i++) check.due("state of " + i, x.fight(0, i, 3), i < 16 ? 1 : 0);
+        for (int f = 0; f < 32; f++) check.due("end of " + f, x.fighter(f, 6), Check.NONE);
+        for (int m = 0; m < 4; m++) check.due("mat " + m, x.mat(m, 0), Check.NONE);
+        check.due("entries", x.count(7), 1 + 1 + 64 + 1);
+        for (int k = 66; k >= 0; k--) check.due("undo to " + k, x.undo(), k);
+        check.due("nobody", x.count(0), 0);
+        check.due("no lines", x.count(4), 0);
+        check.due("REST", x.count(2), 10);
+        check.due("done again", x.enter(7, 3), 0);
+        check.due("its club", x.fighter(0, 1), 7);
+        check.due("its grams", x.fighter(0, 2), Check.NONE);
     }
 
     /** "(THE TAPE, the latest FAULT and plan stay.)" */

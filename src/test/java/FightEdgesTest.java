@@ -40,8 +40,12 @@ public final class FightEdgesTest {
         decideInRange();
         decideInState();
         decideAndLog();
+        comparisons();
+        sums();
         matOfAnotherWhat();
         signsToldOfMats();
+        matUsedAgain();
+        matsSideBySide();
         check.end();
     }
 
@@ -539,6 +543,88 @@ public final class FightEdgesTest {
             check.due("what 18", x.mat(0, 18), Check.NONE);
             check.due("what 19", x.mat(0, 19), Check.NONE);
             check.due("what 28", x.mat(0, 28), Check.NONE);
+        }
+    }
+
+    private static void holds(String cond, boolean want) {
+        JudoHall x = open("time 9;golden 3;sign a;win when " + cond + ";");
+        check.due(cond, x.event(0, 0, 0), want ? 0 : Check.NONE);
+    }
+
+    /** "sum comp sum": each of the six one below, at and one above its edge. */
+    private static void comparisons() {
+        String[] comps = {"<", "<=", ">", ">=", "=", "!="};
+        boolean[][] due = {{true, false, false}, {true, true, false}, {false, false, true}, {false, true, true}, {false, true, false},
+            {true, false, true}};
+        for (int k = 0; k < comps.length; k++) {
+            for (int left = 0; left < 3; left++) {
+                holds(left + comps[k] + "1", due[k][left]);
+                holds(9997 + left + comps[k] + "9998", due[k][left]);
+                holds(left + "-1-1" + comps[k] + "1-2", due[k][left]);
+            }
+        }
+    }
+
+    /** Sums "each from the left", below 0 and above 9999, too. */
+    private static void sums() {
+        holds("0-1<0", true);
+        holds("0-9999-9999<0-9999", true);
+        holds("9999+9999>9999", true);
+        holds("9999+1-1=9999", true);
+        holds("5-3-1=1", true);
+        holds("5-3-1=3", false);
+        holds("5-3+1=3", true);
+        holds("left-9=mine a-1", true);
+        StringBuilder most = new StringBuilder("9999");
+        for (int k = 1; k < 74; k++) most.append("+9999");
+        StringBuilder same = new StringBuilder("9999");
+        for (int k = 1; k < 74; k++) same.append("+9999");
+        holds(most + "=" + same, true);
+        holds(most + ">" + same + "-1", true);
+    }
+
+    /** A MAT that had a FIGHT in EXTRA, or one that waited, begins the next with all of it new. */
+    private static void matUsedAgain() {
+        JudoHall x = new JudoHall();
+        Check.laws(x, "time 5;golden 3;sign a;sign b;win when mine a>0;");
+        Check.fill(x, 0, 4);
+        x.draw(0);
+        x.begin(0, 0, 2);
+        x.event(2, 1, 1);
+        x.tick(2, 5);
+        x.event(2, 0, 0);
+        check.due("behind EXTRA", x.begin(0, 2, 2), 1);
+        int[] fresh = {0, 2, 5, 0, 0};
+        for (int w = 0; w < 5; w++) check.due("behind EXTRA " + w, x.mat(2, w), fresh[w]);
+        for (int k = 0; k < 2; k++) check.due("no sign of WHITE", x.mat(2, 10 + k), 0);
+        for (int k = 0; k < 2; k++) check.due("no sign of BLUE", x.mat(2, 20 + k), 0);
+        x.tick(2, 5);
+        x.tick(2, 3);
+        x.decide(2, 0);
+        x.now(10);
+        check.due("behind a DECISION", x.begin(0, 3, 2), 1);
+        int[] again = {0, 3, 5, 0, 0};
+        for (int w = 0; w < 5; w++) check.due("behind a DECISION " + w, x.mat(2, w), again[w]);
+        check.due("goes on", x.event(2, 0, 1), Check.NONE);
+    }
+
+    /** Four MATS, four CLASSES, eight signs: none takes from another. */
+    private static void matsSideBySide() {
+        JudoHall x = new JudoHall();
+        Check.laws(x, "time 9;golden 0;sign a;sign b;sign c;sign d;sign e;sign f;sign g;sign h;win when over;");
+        for (int c = 0; c < 4; c++) Check.fill(x, c, 3);
+        for (int c = 0; c < 4; c++) x.draw(c);
+        for (int m = 3; m >= 0; m--) check.due("begin", x.begin(3 - m, m % 3, m), 1);
+        for (int m = 0; m < 4; m++) {
+            for (int k = 0; k <= m; k++) x.event(m, 0, m);
+            for (int k = 0; k < 5 - m; k++) x.event(m, 1, 7 - m);
+            x.tick(m, m + 1);
+        }
+        for (int m = 0; m < 4; m++) {
+            int[] want = {3 - m, m % 3, 8 - m, 0, 0};
+            for (int w = 0; w < 5; w++) check.due("mat(" + m + ", " + w + ")", x.mat(m, w), want[w]);
+            for (int k = 0; k < 8; k++) check.due("WHITE's " + k + " on " + m, x.mat(m, 10 + k), k == m ? m + 1 : 0);
+            for (int k = 0; k < 8; k++) check.due("BLUE's " + k + " on " + m, x.mat(m, 20 + k), k == 7 - m ? 5 - m : 0);
         }
     }
 }

@@ -145,9 +145,6 @@ public final class FightTest {
         check.due("the last", x.now(1440), 1440);
         check.due("told", x.count(1), 1440);
         check.due("entries", x.count(7), 3);
-        Check.fillLog(x);
-        check.due("full log", x.now(1440), Check.FULL);
-        check.due("RANGE ahead of FULL", x.now(0), Check.RANGE);
     }
 
     private static void resting() {
@@ -157,9 +154,6 @@ public final class FightTest {
         check.due("rest(121)", x.rest(121), Check.RANGE);
         check.due("rest(-1)", x.rest(-1), Check.RANGE);
         check.due("told", x.count(2), 0);
-        Check.fillLog(x);
-        check.due("full log", x.rest(5), Check.FULL);
-        check.due("RANGE ahead of FULL", x.rest(500), Check.RANGE);
     }
 
     private static void beginning() {
@@ -193,14 +187,9 @@ public final class FightTest {
         JudoHall y = Check.drawn(0, 6);
         check.due("OFF", y.begin(0, 4, 0), Check.STATE);
         check.due("a WALK", y.begin(0, 0, 0), Check.STATE);
-        Check.fillLog(y);
-        check.due("full log", y.begin(0, 1, 0), Check.FULL);
-        check.due("STATE ahead of FULL", y.begin(0, 0, 0), Check.STATE);
         JudoHall z = Check.drawn(0, 3);
         z.begin(0, 1, 0);
         check.due("BLUE fights", z.begin(0, 2, 1), Check.RESTS);
-        Check.fillLog(z);
-        check.due("RESTS ahead of FULL", z.begin(0, 0, 1), Check.RESTS);
     }
 
     private static void events() {
@@ -225,10 +214,6 @@ public final class FightTest {
         check.due("winner", x.fight(0, 0, 2), 1);
         check.due("points without a number", x.fight(0, 0, 5), 1);
         check.due("none any more", x.event(1, 1, 1), Check.STATE);
-        x.undo();
-        Check.fillLog(x);
-        check.due("full log", x.event(1, 1, 1), Check.FULL);
-        check.due("STATE ahead of FULL", x.event(0, 1, 1), Check.STATE);
     }
 
     private static void mostOfASign() {
@@ -267,10 +252,6 @@ public final class FightTest {
         x.undo();
         check.due("passes 10 by", x.tick(0, 2), Check.NONE);
         check.due("LEFT", x.mat(0, 2), 9);
-        Check.fillLog(x);
-        check.due("full log", x.tick(0, 9), Check.FULL);
-        check.due("RANGE of LEFT ahead of FULL", x.tick(0, 10), Check.RANGE);
-        check.due("STATE ahead of FULL", x.tick(1, 1), Check.STATE);
     }
 
     private static JudoHall open(String text) {
@@ -354,10 +335,6 @@ public final class FightTest {
         check.due("end", x.fighter(3, 6), 0);
         x.undo();
         check.due("BLUE", x.decide(0, 1), 3);
-        x.undo();
-        Check.fillLog(x);
-        check.due("full log", x.decide(0, 1), Check.FULL);
-        check.due("STATE ahead of FULL", x.decide(1, 1), Check.STATE);
     }
 
     /** Whether a cond holds behind one sign a of WHITE, two of it of BLUE and 5 of 9 seconds. */

@@ -20,6 +20,7 @@ public final class LawsEdgesTest {
         emptyText();
         textsEnd();
         orderOfTheText();
+        tokensByPlace();
         quotedWordsAreNoNames();
         namesThatAreThereOrNot();
         eightSigns();
@@ -33,6 +34,8 @@ public final class LawsEdgesTest {
         stateIsAskedFirst();
         faultOfTheLatestText();
         faultOfAnotherWhat();
+        lawsBehindAFault();
+        lawsBehindAnUndo();
         check.end();
     }
 
@@ -328,6 +331,56 @@ public final class LawsEdgesTest {
         faulty(HEAD + "win when mine;", SYNTAX, 29);
     }
 
+    private static final String COMPS = " < <= > >= = != ";
+    private static final String TERMS = " mine yours left 7 ";
+    private static final String CONDS = " not over extra (" + TERMS;
+    private static final String[] TOKENS = {"time", "golden", "sign", "win", "when", "or", "and", "not", "over", "extra", "mine",
+        "yours", "left", "a", "zz", "7", "(", ")", ";", "+", "-", "<", "<=", ">", ">=", "=", "!=", "?", "!", "12345", "abcdefghijk", ""};
+
+    /** "SYNTAX: a TOKEN .. with which no LAWS go on": every TOKEN in every place. "END" stands for the text's end. */
+    private static void tokensByPlace() {
+        onlyThese("", " time ");
+        onlyThese("time ", " 7 ");
+        onlyThese("time 5 ", " ; ");
+        onlyThese("time 5;", " golden ");
+        onlyThese("time 5;golden ", " 7 ");
+        onlyThese("time 5;golden 3 ", " ; ");
+        onlyThese(HEAD, " sign win END ");
+        onlyThese(HEAD + "sign ", " a zz ");
+        onlyThese(HEAD + "sign a ", " ; ");
+        String ahead = HEAD + "sign a;";
+        onlyThese(ahead, " sign win END ");
+        onlyThese(ahead + "win ", " 7 when ");
+        onlyThese(ahead + "win 7 ", " when ");
+        for (String open : new String[] {"", "not ", "not not ", "(", "((", "not(", "over and ", "over or ", "(over and "}) {
+            onlyThese(ahead + "win when " + open, CONDS);
+        }
+        for (String term : new String[] {"1 ", "left ", "mine a ", "1+1 ", "left-yours a "}) {
+            onlyThese(ahead + "win when " + term, " + - " + COMPS);
+        }
+        for (String term : new String[] {"1+", "1-", "1=", "1< ", "1=1+", "left!=left-"}) onlyThese(ahead + "win when " + term, TERMS);
+        for (String cond : new String[] {"1=1 ", "1=1+1 ", "not 1=mine a "}) onlyThese(ahead + "win when " + cond, " + - and or ; ");
+        for (String cond : new String[] {"(1=1 ", "((1=1)and left<1 "}) onlyThese(ahead + "win when " + cond, " + - and or ) ");
+        for (String cond : new String[] {"over ", "not extra ", "(over) ", "1=1 or over "}) onlyThese(ahead + "win when " + cond, " and or ; ");
+        for (String cond : new String[] {"(over ", "((1=1) ", "over and(over "}) onlyThese(ahead + "win when " + cond, " and or ) ");
+        onlyThese(ahead + "win when over;", " win END ");
+    }
+
+    private static void onlyThese(String ahead, String tokens) {
+        for (String token : TOKENS) {
+            JudoHall x = new JudoHall();
+            String text = ahead + token;
+            Check.laws(x, text);
+            if (tokens.contains(" " + (token.isEmpty() ? "END" : token) + " ")) {
+                boolean goesOn = x.fault(0) == 0 || x.fault(0) == SYNTAX && x.fault(1) == text.length();
+                check.due("goes on: " + text, goesOn ? 1 : 0, 1);
+            } else {
+                check.due("kind of " + text, x.fault(0), SYNTAX);
+                check.due("place of " + text, x.fault(1), ahead.length());
+            }
+        }
+    }
+
     /** "The words quoted here are no signs' names." A word that has one more letter, or one less, is. */
     private static void quotedWordsAreNoNames() {
         String[] quoted = {"time", "golden", "sign", "win", "when", "not", "over", "extra", "mine", "yours", "left"};
@@ -555,5 +608,46 @@ public final class LawsEdgesTest {
         for (int what : new int[] {-1, 2, 3, Integer.MIN_VALUE, Integer.MAX_VALUE}) {
             check.due("fault(" + what + ")", x.fault(what), Check.NONE);
         }
+    }
+
+    /** Nothing of a text with a FAULT is in the next one: no lines, PARTS, signs, things that are open, POINTS. */
+    private static void lawsBehindAFault() {
+        String[] faulty = {"sign b;win 7 when over;win 8 when 1=1;?", "win 7 when 1=1 and", "win 7 when not", "win 7 when not((", "win 9",
+            "win when 1+", "win when 1<", many("win when over;", 20) + "win", lineOf(301), "win when " + many("(", 9)};
+        for (String text : faulty) {
+            JudoHall x = new JudoHall();
+            check.due(text, Check.laws(x, HEAD + text), Check.NONE);
+            check.due("behind " + text, Check.laws(x, HEAD + "sign a;win when mine a=1 and 1+1=2;"), 1);
+            check.due("lines", x.count(4), 1);
+            check.due("signs", x.count(3), 1);
+            check.due("PARTS", x.count(5), 9);
+            Check.fill(x, 0, 2);
+            x.draw(0);
+            x.begin(0, 0, 0);
+            check.due("a second", x.tick(0, 1), Check.NONE);
+            check.due("ends", x.event(0, 1, 0), 0);
+            check.due("winner", x.fight(0, 0, 2), 1);
+            check.due("POINTS", x.fight(0, 0, 5), 1);
+        }
+    }
+
+    /** Laws that were taken back are gone, also when others come in their stead. */
+    private static void lawsBehindAnUndo() {
+        JudoHall x = new JudoHall();
+        Check.laws(x, HEAD + "sign a;win 2 when mine a=1;");
+        x.undo();
+        check.due("none", x.count(4), 0);
+        check.due("others", Check.laws(x, "time 7;golden 0;sign a;sign b;win 3 when extra;win 4 when mine b=1;"), 2);
+        check.due("their lines", x.count(4), 2);
+        check.due("their signs", x.count(3), 2);
+        check.due("a third", Check.laws(x, HEAD + "win when over;"), 1);
+        x.undo();
+        check.due("the second again", x.count(3), 2);
+        Check.fill(x, 0, 2);
+        x.draw(0);
+        x.begin(0, 0, 0);
+        check.due("time of the second", x.mat(0, 2), 7);
+        check.due("line of the second", x.event(0, 0, 1), 1);
+        check.due("POINTS of the second", x.fight(0, 0, 5), 4);
     }
 }

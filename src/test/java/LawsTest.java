@@ -243,12 +243,6 @@ public final class LawsTest {
         check.due("lines again", x.count(4), 1);
         check.due("signs again", x.count(3), 1);
         check.due("parts again", x.count(5), 3);
-        Check.fillLog(x);
-        check.due("faulty laws with a full log", Check.laws(x, "time;"), Check.NONE);
-        check.due("laws with a full log", Check.laws(x, HEAD), Check.FULL);
-        check.due("fault of the refused text", x.fault(0), 0);
-        check.due("refused text is read", x.count(8), 0);
-        check.due("laws stay", x.count(4), 1);
     }
 
     /** A text that met an OPEN FIGHT is gone, but the FAULT told is still that of the text before. */
@@ -259,9 +253,6 @@ public final class LawsTest {
         check.due("sound laws while OPEN", Check.laws(x, HEAD + "win when over;"), Check.STATE);
         check.due("fault of the text before", x.fault(0), 2);
         check.due("place in the text before", x.fault(1), 16 + 12);
-        Check.fillLog(x);
-        check.due("STATE ahead of FULL", Check.laws(x, HEAD), Check.STATE);
-        check.due("read with a full log, too", x.count(8), 0);
         x.undo();
         check.due("undo brings no bytes back", x.count(8), 0);
     }

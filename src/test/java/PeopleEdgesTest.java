@@ -35,6 +35,7 @@ public final class PeopleEdgesTest {
         aboutOfAnotherWhat();
         aboutAheadAndBehind();
         aboutPlaces();
+        fullClassesSideBySide();
         check.end();
     }
 
@@ -444,5 +445,41 @@ public final class PeopleEdgesTest {
         check.due("a BYE", y.about(1, 101), Check.NONE);
         check.due("no BYE", y.about(1, 102), 8);
         check.due("a POOL has no PLACES", y.about(0, 100), Check.NONE);
+    }
+
+    /** Two CLASSES of 32 and two with limits of their own: none takes from another. */
+    private static JudoHall sideBySide() {
+        JudoHall x = new JudoHall();
+        for (int c = 0; c < 4; c++) x.limit(c, 10 + c, 20 + c);
+        Check.laws(x, Check.IPPON);
+        for (int f = 0; f < 64; f++) x.weigh(x.enter(f % 16, f % 2), 15);
+        x.draw(0);
+        x.draw(1);
+        return x;
+    }
+
+    private static void fullClassesSideBySide() {
+        JudoHall x = sideBySide();
+        check.due("lines", x.count(4), 1);
+        for (int c = 2; c < 4; c++) {
+            int f = x.enter(c, c);
+            check.due("below the least of " + c, x.weigh(f, 9 + c), 0);
+            check.due("the least of " + c, x.weigh(f, 10 + c), 1);
+            check.due("the most of " + c, x.weigh(f, 20 + c), 1);
+            check.due("above the most of " + c, x.weigh(f, 21 + c), 0);
+        }
+        for (int c = 0; c < 2; c++) {
+            for (int p = 0; p < 32; p++) check.due("PLACE " + p + " of " + c, x.fighter(x.about(c, 100 + p), 5), p);
+        }
+        JudoHall y = sideBySide();
+        for (int i = 0; i < 37; i++) Check.win(y, 0, i, 0);
+        check.due("all of class 0 but those who rest", y.about(0, 5), 16);
+        check.due("none of class 1", y.about(1, 5), 0);
+        JudoHall z = sideBySide();
+        z.rest(0);
+        for (int i = 0; i < 37; i++) check.due("fight " + i, Check.win(z, 0, i, 0), 0);
+        for (int i = 0; i < 37; i++) check.due("state of " + i + " of class 1", z.fight(1, i, 3), i < 16 ? 1 : 0);
+        for (int i = 0; i < 16; i++) check.due("WHITE of " + i + " of class 1", z.fight(1, i, 0), z.about(1, 100 + 2 * i));
+        check.due("all of class 0", z.about(0, 5), 37);
     }
 }

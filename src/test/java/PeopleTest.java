@@ -42,10 +42,6 @@ public final class PeopleTest {
         x.undo();
         check.due("undone scales", x.limit(0, 50, 60), 1);
         check.due("new limits", x.weigh(0, 61), 0);
-        x.undo();
-        Check.fillLog(x);
-        check.due("STATE ahead of FULL is not so here", x.limit(0, 0, 5), Check.FULL);
-        check.due("RANGE ahead of FULL", x.limit(9, 0, 5), Check.RANGE);
     }
 
     private static void entering() {
@@ -67,9 +63,6 @@ public final class PeopleTest {
         check.due("another class", y.enter(0, 1), 3);
         y.undo();
         check.due("the number again", y.enter(0, 1), 3);
-        Check.fillLog(y);
-        check.due("full log", y.enter(0, 1), Check.FULL);
-        check.due("STATE ahead of FULL", y.enter(0, 2), Check.STATE);
     }
 
     private static void scales() {
@@ -95,10 +88,6 @@ public final class PeopleTest {
         JudoHall y = Check.drawn(0, 2);
         check.due("drawn", y.weigh(0, 1), Check.STATE);
         check.due("drawn and out of range", y.weigh(0, -1), Check.RANGE);
-        y.enter(0, 1);
-        Check.fillLog(y);
-        check.due("full log", y.weigh(2, 1), Check.FULL);
-        check.due("STATE ahead of FULL", y.weigh(1, 1), Check.STATE);
     }
 
     private static void seeds() {
@@ -120,9 +109,6 @@ public final class PeopleTest {
         check.due("told of none", x.fighter(0, 4), 0);
         x.draw(0);
         check.due("drawn", x.seed(2, 3), Check.STATE);
-        Check.fillLog(x);
-        check.due("full log", x.seed(3, 2), Check.FULL);
-        check.due("STATE ahead of FULL", x.seed(2, 3), Check.STATE);
     }
 
     private static void drawing() {
@@ -148,10 +134,6 @@ public final class PeopleTest {
         check.due("32", x.draw(1), 37);
         check.due("no byes", x.about(1, 6), 0);
         check.due("drawn", x.draw(1), Check.STATE);
-        x.weigh(1, 5);
-        Check.fillLog(x);
-        check.due("full log", x.draw(0), Check.FULL);
-        check.due("NONE ahead of FULL", x.draw(2), Check.NONE);
     }
 
     private static void rows() {

@@ -3,7 +3,7 @@ public final class ResultEdgesTest {
     private static final Check check = new Check("ResultEdgesTest");
     private static final int LEAST = Integer.MIN_VALUE, MOST = Integer.MAX_VALUE;
     private static final Check.Made busy = Check::busy;
-    private static final String TWO = "time 9;golden 0;sign a;sign b;win 10 when mine a>0;win 7 when mine b>0;";
+    private static final String TWO = "time 9;golden 0;sign a;sign b;win 20 when mine a>0;win 7 when mine b>0;";
 
     public static void main(String[] args) {
         strikeInRange();
@@ -26,6 +26,7 @@ public final class ResultEdgesTest {
         thenByGrams();
         thenByNumber();
         pointsOfNone();
+        orderOfOtherResults();
         check.end();
     }
 
@@ -224,14 +225,23 @@ public final class ResultEdgesTest {
         for (int c : new int[] {-1, 2, 3, 4, LEAST, MOST}) check.due("class " + c, x.medal(c, 0), Check.NONE);
         for (int k = -1; k < 6; k++) check.due("of a POOL, not known", x.medal(0, k), Check.NONE);
         for (int k = -1; k < 6; k++) check.due("of a TREE, not known", x.medal(1, k), Check.NONE);
+        for (int grams = 0; grams < 3; grams++) {
+            JudoHall y = new JudoHall();
+            y.weigh(y.enter(0, 0), grams);
+            for (int c = -1; c < 5; c++) check.due("nothing is drawn: class " + c, y.medal(c, 0), Check.NONE);
+        }
     }
 
     /** "Of a TREE 0 the winner of the FINAL, 1 who lost it, 2, 3 who is third." */
     private static void medalsOfATree() {
         JudoHall x = Check.drawn(0, 8);
-        for (int i = 0; i < 6; i++) Check.win(x, 0, i, 0);
+        for (int i = 0; i < 5; i++) Check.win(x, 0, i, 0);
+        check.due("one finalist is known, no first", x.medal(0, 0), Check.NONE);
+        check.due("one finalist is known, no second", x.medal(0, 1), Check.NONE);
+        Check.win(x, 0, 5, 0);
+        for (int k = 0; k < 4; k++) check.due("the FINAL and the steps are READY", x.medal(0, k), Check.NONE);
         x.begin(0, 6, 0);
-        check.due("the FINAL is OPEN", x.medal(0, 0), Check.NONE);
+        for (int k = 0; k < 4; k++) check.due("the FINAL is OPEN", x.medal(0, k), Check.NONE);
         x.event(0, 1, 0);
         check.due("first", x.medal(0, 0), 2);
         check.due("second", x.medal(0, 1), 0);
@@ -267,7 +277,7 @@ public final class ResultEdgesTest {
         }
     }
 
-    /** A POOL with these grams; winners by FIGHT, and which sign each won by (0: 10 POINTS, 1: 7). */
+    /** A POOL with these grams; winners by FIGHT, and which sign each won by (0: 20 POINTS, 1: 7). */
     private static JudoHall pool(int[] grams, int[] winners, int[] signs) {
         JudoHall x = new JudoHall();
         Check.laws(x, TWO);
@@ -287,7 +297,7 @@ public final class ResultEdgesTest {
 
     // pairs of 3: 01 12 02; of 4: 01 12 23 02 13 03
 
-    /** "By how many fights one has won": two of 7 are more than one of 10. */
+    /** "By how many fights one has won": two with 7 POINTS are more than one with 20. */
     private static void firstByWins() {
         JudoHall x = pool(new int[] {1, 1, 9}, new int[] {0, 2, 2}, new int[] {0, 1, 1});
         order("by wins", x, 2, 0, 1);
@@ -305,7 +315,7 @@ public final class ResultEdgesTest {
     /** "Then, of just two alike so far, who won of both": though it has more grams and the greater number. */
     private static void thenWhoWonOfBoth() {
         JudoHall x = pool(new int[] {1, 9, 1, 9}, new int[] {1, 1, 2, 0, 3, 0}, new int[] {0, 0, 0, 0, 0, 0});
-        // 0 and 1 have two wins and 20, 2 and 3 one and 10: 1 won of 0, 2 won of 3
+        // 0 and 1 have two wins and 40, 2 and 3 one and 20: 1 won of 0, 2 won of 3
         order("two pairs alike", x, 1, 0, 2, 3);
         JudoHall y = pool(new int[] {1, 9}, new int[] {1}, new int[] {0});
         order("of two", y, 1, 0);
@@ -343,5 +353,29 @@ public final class ResultEdgesTest {
         x.decide(0, 1);
         // one win each: 0 and 1 have 7 each, 2 has none; 0 won of 1
         order("by a DECISION", x, 0, 1, 2);
+    }
+
+    /** The order is that of the results of now, whatever was asked before. */
+    private static void orderOfOtherResults() {
+        JudoHall x = pool(new int[] {1, 1, 1}, new int[] {0, 1, 0}, new int[] {0, 0, 0});
+        for (int k = 0; k < 5; k++) order("ahead", x, 0, 1, 2);
+        x.strike(0, 2);
+        x.strike(0, 0);
+        x.begin(0, 0, 0);
+        x.event(0, 1, 1);
+        x.begin(0, 2, 0);
+        x.event(0, 1, 1);
+        // 1 has two wins now, 2 one, 0 none
+        order("behind", x, 1, 2, 0);
+        JudoHall y = pool(new int[] {1, 1, 1}, new int[] {0, 1, 2}, new int[] {0, 1, 1});
+        for (int k = 0; k < 5; k++) order("ahead, one win each", y, 0, 1, 2);
+        y.strike(0, 0);
+        y.begin(0, 0, 0);
+        y.event(0, 0, 1);
+        y.strike(0, 2);
+        y.begin(0, 2, 0);
+        y.event(0, 1, 0);
+        // 2 has 20 POINTS now, 0 and 1 have 7: 0 won of both
+        order("behind, one win each", y, 2, 0, 1);
     }
 }

@@ -29,10 +29,6 @@ public final class ResultTest {
         check.due("OFF", x.strike(0, 6), Check.STATE);
         x.begin(0, 1, 0);
         check.due("OPEN", x.strike(0, 1), Check.STATE);
-        x.event(0, 0, 0);
-        Check.fillLog(x);
-        check.due("full log", x.strike(0, 1), Check.FULL);
-        check.due("STATE ahead of FULL", x.strike(0, 0), Check.STATE);
     }
 
     private static void strikeInPool() {
