@@ -34,6 +34,7 @@ public final class DayEdgesTest {
         undoOfNone();
         undoOfAll();
         undoOfALongDay();
+        undoOfALargeDraw();
         undoLeaves();
         undoneAndDoneAgain();
         countOfAnotherWhat();
@@ -544,5 +545,23 @@ public final class DayEdgesTest {
         JudoHall x = Check.busy();
         int[] want = {13, 30, 10, 2, 2, 6, 2, 38, 20};
         for (int k = 0; k < want.length; k++) check.due("count(" + k + ")", x.count(k), want[k]);
+    }
+
+    /** A draw of 32 behind 128 other ACTS and some more is taken back whole. */
+    private static void undoOfALargeDraw() {
+        for (int more = 0; more < 4; more++) {
+            int rests = more;
+            Check.Made made = () -> {
+                JudoHall x = new JudoHall();
+                for (int k = 0; k < rests; k++) x.rest(k);
+                for (int f = 0; f < 64; f++) x.weigh(x.enter(f % 16, f % 2), 5);
+                return x;
+            };
+            Check.Call drawn = x -> {
+                x.draw(0);
+                return x.undo();
+            };
+            check.refused("a draw taken back behind " + rests, made, drawn, 128 + rests);
+        }
     }
 }

@@ -21,6 +21,7 @@ public final class DrawEdgesTest {
         latestMeeting();
         seedsOfTheClubAreMet();
         oneClubAlone();
+        noByeThoughItWouldBeLater();
         fightsOfTheTree();
         walksAgainstByes();
         secondLivesOfAll();
@@ -339,5 +340,16 @@ public final class DrawEdgesTest {
         check.due("DONE", x.fight(0, 4, 3), 3);
         x.undo();
         check.due("OPEN again", x.fight(0, 4, 3), 2);
+    }
+
+    /** "Of the PLACES that are free and no BYES": not even where a BYE's PLACE would be met later. */
+    private static void noByeThoughItWouldBeLater() {
+        JudoHall x = ofClubs(1, 2, 9, 3, 9, 9);
+        for (int f = 0; f < 4; f++) x.seed(f, f + 1);
+        // SEEDS are on 0, 7, 4 and 3; of club 9 the next takes 2, in the other half, and the last can but take 5,
+        // beside the SEED on 4: PLACE 6, a BYE, would be met a round later
+        places("six of 8", x, 0, 7, 4, 3, 2, 5);
+        check.due("BYE", x.about(0, 106), Check.NONE);
+        check.due("the other BYE", x.about(0, 101), Check.NONE);
     }
 }

@@ -36,6 +36,7 @@ public final class FightEdgesTest {
         noTime();
         neitherTimeNorGolden();
         linesAndSides();
+        eachOfTwentyLines();
         pointsOfALine();
         decideInRange();
         decideInState();
@@ -625,6 +626,19 @@ public final class FightEdgesTest {
             for (int w = 0; w < 5; w++) check.due("mat(" + m + ", " + w + ")", x.mat(m, w), want[w]);
             for (int k = 0; k < 8; k++) check.due("WHITE's " + k + " on " + m, x.mat(m, 10 + k), k == m ? m + 1 : 0);
             for (int k = 0; k < 8; k++) check.due("BLUE's " + k + " on " + m, x.mat(m, 20 + k), k == 7 - m ? 5 - m : 0);
+        }
+    }
+
+    /** Each of 20 lines as the one that holds. */
+    private static void eachOfTwentyLines() {
+        for (int line = 0; line < 20; line++) {
+            StringBuilder text = new StringBuilder("time 9;golden 0;sign a;");
+            for (int k = 0; k < 20; k++) text.append("win ").append(50 + k).append(k == line ? " when mine a=1;" : " when extra or over;");
+            JudoHall x = open(text.toString());
+            check.due("nothing holds", x.tick(0, 1), Check.NONE);
+            check.due("line " + line, x.event(0, 1, 0), line);
+            check.due("its POINTS", x.fight(0, 0, 5), 50 + line);
+            check.due("its winner", x.fight(0, 0, 2), 1);
         }
     }
 }

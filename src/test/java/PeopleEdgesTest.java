@@ -36,6 +36,7 @@ public final class PeopleEdgesTest {
         aboutAheadAndBehind();
         aboutPlaces();
         fullClassesSideBySide();
+        fullHouse();
         check.end();
     }
 
@@ -481,5 +482,28 @@ public final class PeopleEdgesTest {
         for (int i = 0; i < 37; i++) check.due("state of " + i + " of class 1", z.fight(1, i, 3), i < 16 ? 1 : 0);
         for (int i = 0; i < 16; i++) check.due("WHITE of " + i + " of class 1", z.fight(1, i, 0), z.about(1, 100 + 2 * i));
         check.due("all of class 0", z.about(0, 5), 37);
+    }
+
+    /** 96 FIGHTERS in the last three CLASSES, and all FIGHTS of the last: the first and the last of all are as they came. */
+    private static void fullHouse() {
+        JudoHall x = new JudoHall();
+        Check.laws(x, Check.IPPON);
+        x.rest(0);
+        for (int f = 0; f < 96; f++) x.weigh(x.enter(f % 16, 1 + f % 3), 70000 + f);
+        for (int c = 1; c < 4; c++) check.due("draw of " + c, x.draw(c), 37);
+        x.now(9);
+        for (int i = 0; i < 37; i++) {
+            check.due("begin " + i, x.begin(3, i, i % 4), 1);
+            check.due("event " + i, x.event(i % 4, 1, 0), 0);
+        }
+        for (int f = 0; f < 96; f += 95) {
+            int[] want = {1 + f % 3, f % 16, 70000 + f, 1, 0};
+            for (int w = 0; w < want.length; w++) check.due("fighter(" + f + ", " + w + ")", x.fighter(f, w), want[w]);
+        }
+        check.due("end of the first", x.fighter(0, 6), Check.NONE);
+        check.due("end of the last", x.fighter(95, 6), 9);
+        for (int p = 0; p < 32; p++) check.due("PLACE " + p, x.fighter(x.about(3, 100 + p), 5), p);
+        for (int i = 0; i < 37; i++) check.due("winner of " + i, x.fight(3, i, 2), x.fight(3, i, 1));
+        check.due("none of CLASS 1", x.about(1, 5), 0);
     }
 }

@@ -27,6 +27,8 @@ public final class ResultEdgesTest {
         thenByNumber();
         pointsOfNone();
         orderOfOtherResults();
+        poolAmongOthers();
+        strikeInTheLastClass();
         check.end();
     }
 
@@ -377,5 +379,39 @@ public final class ResultEdgesTest {
         y.event(0, 1, 0);
         // 2 has 20 POINTS now, 0 and 1 have 7: 0 won of both
         order("behind, one win each", y, 2, 0, 1);
+    }
+
+    /** Who is not of the POOL has no place in its order, not even behind all who have won. */
+    private static void poolAmongOthers() {
+        JudoHall x = new JudoHall();
+        Check.laws(x, Check.IPPON);
+        x.rest(0);
+        x.weigh(x.enter(0, 0), 1);
+        Check.fill(x, 1, 3);
+        x.draw(1);
+        Check.win(x, 1, 0, 0);
+        Check.win(x, 1, 1, 0);
+        Check.win(x, 1, 2, 1);
+        int[] want = {1, 2, 3, Check.NONE, Check.NONE};
+        for (int k = 0; k < want.length; k++) check.due("one win each, medal " + k, x.medal(1, k), want[k]);
+    }
+
+    /** The last FIGHT of the last CLASS is struck as others are, whatever is on the MATS. */
+    private static void strikeInTheLastClass() {
+        for (int mat = 0; mat < 4; mat++) {
+            JudoHall x = Check.drawn(3, 32);
+            Check.fill(x, 2, 2);
+            x.draw(2);
+            for (int i = 0; i < 37; i++) {
+                x.begin(3, i, mat);
+                x.event(mat, 0, 0);
+            }
+            x.begin(2, 0, 3 - mat);
+            check.due("all DONE", x.about(3, 5), 37);
+            check.due("the last one", x.strike(3, 36), 1);
+            check.due("the first one", x.strike(3, 0), 8);
+            check.due("left", x.about(3, 5), 28);
+            check.due("of the other CLASS", x.mat(3 - mat, 0), 2);
+        }
     }
 }
