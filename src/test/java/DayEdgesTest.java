@@ -33,6 +33,8 @@ public final class DayEdgesTest {
         latestPlanThatToldAMinute();
         undoOfNone();
         undoOfAll();
+        undoOfEachAct();
+        undoOfActsThatNeedMore();
         undoOfALongDay();
         undoOfALargeDraw();
         undoLeaves();
@@ -479,6 +481,84 @@ public final class DayEdgesTest {
             int[] behind = Sight.of(undone.hall(), part);
             for (int k = 0; k < before.length; k++) check.due("look " + part + "." + k, behind[k], before[k]);
         }
+    }
+
+    /** "The latest ACT is taken back": all that can be asked is as it was ahead of it. */
+    private static void takenBack(String what, Check.Made made, Check.Call act) {
+        int entries = made.hall().count(7);
+        Check.Call both = x -> {
+            check.due(what + " is done", act.on(x) >= Check.NONE && x.count(7) == entries + 1 ? 1 : 0, 1);
+            return x.undo();
+        };
+        check.refused("undo of " + what, made, both, entries);
+    }
+
+    private static void undoOfEachAct() {
+        takenBack("limit", busy, x -> x.limit(3, 5, 6));
+        takenBack("enter", busy, x -> x.enter(15, 3));
+        takenBack("a first time at the scales", busy, x -> x.weigh(12, 1500));
+        takenBack("one who was OUT at the scales", busy, x -> x.weigh(11, 1500));
+        takenBack("one who was WEIGHED at the scales", busy, x -> x.weigh(10, 2001));
+        takenBack("seed", busy, x -> x.seed(12, 8));
+        takenBack("another seed", busy, x -> x.seed(10, 8));
+        takenBack("no seed", busy, x -> x.seed(10, 0));
+        takenBack("now", busy, x -> x.now(31));
+        takenBack("rest", busy, x -> x.rest(120));
+        takenBack("begin", busy, x -> x.begin(0, 5, 2));
+        takenBack("an event", busy, x -> x.event(0, 0, 1));
+        takenBack("an event that ends", busy, x -> x.event(0, 1, 0));
+        takenBack("a tick", busy, x -> x.tick(0, 4));
+        takenBack("a tick to golden time", busy, x -> x.tick(0, 5));
+        takenBack("decide", busy, x -> x.decide(1, 0));
+        takenBack("strike", busy, x -> x.strike(0, 0));
+    }
+
+    private static void undoOfActsThatNeedMore() {
+        Check.Made twoWeighed = () -> {
+            JudoHall x = Check.busy();
+            x.weigh(12, 1500);
+            return x;
+        };
+        takenBack("draw of a POOL", twoWeighed, x -> x.draw(2));
+        Check.Made golden = () -> {
+            JudoHall x = Check.busy();
+            x.tick(0, 5);
+            return x;
+        };
+        takenBack("a tick to the wait", golden, x -> x.tick(0, 3));
+        takenBack("an event in golden time", golden, x -> x.event(0, 0, 0));
+        Check.Made semis = () -> {
+            JudoHall x = Check.drawn(1, 7);
+            for (int i = 1; i < 6; i++) Check.win(x, 1, i, 0);
+            x.begin(1, 6, 3);
+            x.begin(1, 8, 0);
+            x.tick(0, 9);
+            x.now(77);
+            return x;
+        };
+        takenBack("a strike that breaks off, with a WALK", semis, x -> x.strike(1, 1));
+        takenBack("a strike that breaks off one that waits", semis, x -> x.strike(1, 5));
+        Check.Made done = () -> {
+            JudoHall x = Check.drawn(0, 8);
+            for (int i = 0; i < 6; i++) Check.win(x, 0, i, 1);
+            Check.put(x, "time 7;golden 7;sign x;sign y;win 3 when 1=1;win when over;");
+            x.laws();
+            x.feed(0x74696d65, 0x20313b67, 0x6f6c6465, 0x6e20323b, 0x20202020);
+            return x;
+        };
+        // THE TAPE is read and stays so: it is fed once more, so that all is as ahead of the ACT
+        takenBack("laws", done, x -> {
+            int lines = x.laws();
+            x.feed(0x74696d65, 0x20313b67, 0x6f6c6465, 0x6e20323b, 0x20202020);
+            return lines;
+        });
+        Check.Made weighed = () -> {
+            JudoHall x = new JudoHall();
+            x.rest(3);
+            Check.fill(x, 3, 9);
+            return x;
+        };
+        takenBack("draw of a TREE", weighed, x -> x.draw(3));
     }
 
     /** Many ACTS that change much: a whole tree of 32, and back. */
