@@ -64,7 +64,7 @@ public final class LanguageTest {
         int code = step.code;
         // rules 2, 6 and 10: no throw, synchronized, lambda, method reference or text joined by +
         due(code != 0xbf && code != 0xc2 && code != 0xc3 && code != 0xba, method + " has a step " + code);
-        // rule 3: no array of more than one dimension, none of objects, no floating point
+        // more than rule 3 asks: this class needs no arrays but rows of numbers
         due(code != 0xc5 && code != 0xbd, method + " makes an array that is no row of numbers");
         // rule 7: an index, a list's size, a divisor, a cast, a length are looked at ahead
         boolean indexed = code >= 0x2e && code <= 0x35 || code >= 0x4f && code <= 0x56
@@ -91,7 +91,7 @@ public final class LanguageTest {
         return deepest + 1;
     }
 
-    /** Runs of 512 calls that make the most: laws, and ACTS that change much. The room has 7.3 million elements. */
+    /** Runs of up to 512 calls that make the most: laws, ACTS that change much, plans. The room has 7.3 million elements. */
     private static void roomOfARun() {
         long told = bytesOf(() -> {
             JudoHall x = new JudoHall();
@@ -119,9 +119,8 @@ public final class LanguageTest {
 
     private static long bytesOf(Runnable run) {
         com.sun.management.ThreadMXBean all = (com.sun.management.ThreadMXBean) ManagementFactory.getThreadMXBean();
-        long me = Thread.currentThread().getId();
-        long before = all.getThreadAllocatedBytes(me);
+        long before = all.getCurrentThreadAllocatedBytes();
         run.run();
-        return all.getThreadAllocatedBytes(me) - before;
+        return all.getCurrentThreadAllocatedBytes() - before;
     }
 }
