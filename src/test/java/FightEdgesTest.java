@@ -43,9 +43,13 @@ public final class FightEdgesTest {
         decideAndLog();
         comparisons();
         sums();
+        andOrNot();
+        brackets();
+        classesThatAreNone();
         matOfAnotherWhat();
         signsToldOfMats();
         matUsedAgain();
+        matUsedAgainWithEightSigns();
         matsSideBySide();
         check.end();
     }
@@ -584,6 +588,72 @@ public final class FightEdgesTest {
         holds(most + ">" + same + "-1", true);
     }
 
+    private static boolean bit(int mask, int k) { return (mask >> k & 1) == 1; }
+
+    /** A cond that holds or not, without or with "not" ahead. */
+    private static String atom(boolean holds, boolean not) {
+        return not ? holds ? "not 1=2" : "not 1=1" : holds ? "1=1" : "1=2";
+    }
+
+    /** "By or, and, from the loosest on .. then "not" ahead": one to four, no brackets, each that holds and doesn't. */
+    private static void andOrNot() {
+        for (int many = 1; many <= 4; many++) {
+            for (int mask = 0; mask < 1 << 3 * many - 1; mask++) {
+                StringBuilder cond = new StringBuilder();
+                boolean any = false;
+                boolean all = true;
+                for (int k = 0; k < many; k++) {
+                    boolean or = k > 0 && bit(mask, 2 * many + k - 1);
+                    if (k > 0) cond.append(or ? " or " : " and ");
+                    if (or) {
+                        any |= all;
+                        all = true;
+                    }
+                    cond.append(atom(bit(mask, k), bit(mask, many + k)));
+                    all &= bit(mask, k);
+                }
+                holds(cond.toString(), any || all);
+            }
+        }
+    }
+
+    private static boolean joined(boolean a, boolean or, boolean b) { return or ? a || b : a && b; }
+
+    /** "(" cond ")", with "not" ahead and without, first and last. */
+    private static void brackets() {
+        for (int mask = 0; mask < 64; mask++) {
+            boolean a = bit(mask, 0), b = bit(mask, 1), c = bit(mask, 2), first = bit(mask, 3), second = bit(mask, 4), not = bit(mask, 5);
+            String one = first ? " or " : " and ", two = second ? " or " : " and ", ahead = not ? "not" : "";
+            String x = atom(a, false), y = atom(b, true), z = atom(c, false);
+            holds(ahead + "(" + x + one + y + ")" + two + z, joined(joined(a, first, b) != not, second, c));
+            holds(x + one + ahead + "(" + y + two + z + ")", joined(a, first, joined(b, second, c) != not));
+            holds(ahead + "((" + x + ")" + one + "(" + y + "))" + two + "(" + z + ")", joined(joined(a, first, b) != not, second, c));
+        }
+    }
+
+    /** "CLASSES 0 .. 3": none is below and none behind, whatever there is of FIGHTERS. */
+    private static void classesThatAreNone() {
+        for (int grams = 0; grams < 4; grams++) {
+            JudoHall x = new JudoHall();
+            Check.laws(x, Check.IPPON);
+            for (int k = 0; k < 8; k++) x.weigh(x.enter(k, k / 2), grams);
+            for (int c = 0; c < 4; c++) x.draw(c);
+            x.plan(4, 5);
+            for (int c : new int[] {-1, 4}) {
+                for (int i = 0; i < 3; i++) {
+                    for (int what = 0; what < 8; what++) check.due("fight of " + c, x.fight(c, i, what), Check.NONE);
+                    check.due("begin of " + c, x.begin(c, i, 0), Check.RANGE);
+                    check.due("strike of " + c, x.strike(c, i), Check.RANGE);
+                    check.due("planned of " + c, x.planned(c, i, 0), Check.NONE);
+                    check.due("medal of " + c, x.medal(c, i), Check.NONE);
+                }
+                for (int what = 0; what < 7; what++) check.due("about " + c, x.about(c, what), Check.NONE);
+                check.due("PLACE of " + c, x.about(c, 100), Check.NONE);
+                check.due("draw of " + c, x.draw(c), Check.RANGE);
+            }
+        }
+    }
+
     /** A MAT that had a FIGHT in EXTRA, or one that waited, begins the next with all of it new. */
     private static void matUsedAgain() {
         JudoHall x = new JudoHall();
@@ -607,6 +677,24 @@ public final class FightEdgesTest {
         int[] again = {0, 3, 5, 0, 0};
         for (int w = 0; w < 5; w++) check.due("behind a DECISION " + w, x.mat(2, w), again[w]);
         check.due("goes on", x.event(2, 0, 1), Check.NONE);
+    }
+
+    /** Each of eight signs of both sides is none at the next begin. */
+    private static void matUsedAgainWithEightSigns() {
+        JudoHall x = new JudoHall();
+        Check.laws(x, "time 9;golden 0;sign a;sign b;sign c;sign d;sign e;sign f;sign g;sign h;win when left=1;");
+        Check.fill(x, 0, 4);
+        x.draw(0);
+        x.begin(0, 0, 1);
+        for (int k = 0; k < 8; k++) {
+            x.event(1, 0, k);
+            x.event(1, 1, k);
+        }
+        for (int k = 0; k < 8; k++) check.due("one of each", x.mat(1, 10 + k) + x.mat(1, 20 + k), 2);
+        check.due("ends", x.tick(1, 8), 0);
+        check.due("the next", x.begin(0, 2, 1), 1);
+        for (int k = 0; k < 8; k++) check.due("WHITE's " + k, x.mat(1, 10 + k), 0);
+        for (int k = 0; k < 8; k++) check.due("BLUE's " + k, x.mat(1, 20 + k), 0);
     }
 
     /** Four MATS, four CLASSES, eight signs: none takes from another. */

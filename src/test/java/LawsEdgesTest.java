@@ -23,6 +23,7 @@ public final class LawsEdgesTest {
         tokensByPlace();
         quotedWordsAreNoNames();
         namesThatAreThereOrNot();
+        namesBehindOtherBlanks();
         eightSigns();
         twentyLines();
         threeHundredParts();
@@ -409,6 +410,16 @@ public final class LawsEdgesTest {
         check.due("is none such", x.fault(0), NAME);
     }
 
+    /** A name is its letters alone: what stands ahead of it and behind it is none of it. */
+    private static void namesBehindOtherBlanks() {
+        sound(HEAD + "sign\nab;win when mine ab=yours\nab;", 1);
+        sound(HEAD + "sign ab;win when mine\nab =yours \n ab\n;", 1);
+        sound(HEAD + "sign\n\nab ;win when mine  ab=1;", 1);
+        faulty(HEAD + "sign ab;sign\nab;", NAME, 29);
+        faulty(HEAD + "sign\nab\n;sign ab;", NAME, 30);
+        faulty(HEAD + "sign a;win when mine\nb=1;", NAME, 37);
+    }
+
     private static String signs(int n) {
         StringBuilder s = new StringBuilder();
         for (int k = 0; k < n; k++) s.append("sign s").append((char) ('a' + k)).append(';');
@@ -628,6 +639,17 @@ public final class LawsEdgesTest {
             check.due("ends", x.event(0, 1, 0), 0);
             check.due("winner", x.fight(0, 0, 2), 1);
             check.due("POINTS", x.fight(0, 0, 5), 1);
+        }
+        // lines of the text before, each longer than the one that is told, are not asked behind it
+        for (int lines = 2; lines <= 20; lines++) {
+            JudoHall x = new JudoHall();
+            Check.laws(x, HEAD + many("win 9 when 1=1 and 1=1;", lines) + "?");
+            check.due("one line behind " + lines, Check.laws(x, HEAD + "sign a;win when 1=2;"), 1);
+            Check.fill(x, 0, 2);
+            x.draw(0);
+            x.begin(0, 0, 0);
+            check.due("a second behind " + lines, x.tick(0, 1), Check.NONE);
+            check.due("an event behind " + lines, x.event(0, 0, 0), Check.NONE);
         }
     }
 

@@ -48,7 +48,7 @@ public final class RandomRunsTest {
         StringBuilder s = new StringBuilder();
         s.append("time ").append(in(0, 6)).append(oneOf(2) ? ";" : " ; ");
         s.append("golden").append(blank()).append(oneOf(3) ? 0 : in(0, 5)).append(";");
-        for (int k = 0; k < signs; k++) s.append(blank()).append("sign ").append(name(k)).append(";");
+        for (int k = 0; k < signs; k++) s.append(blank()).append("sign").append(blank()).append(name(k)).append(";");
         for (int k = 0; k < lines; k++) {
             s.append("win").append(oneOf(3) ? "" : " " + in(0, 12)).append(" when ").append(cond(signs, deep)).append(";");
         }
@@ -83,7 +83,7 @@ public final class RandomRunsTest {
 
     private String term(int signs) {
         if (signs == 0 || oneOf(3)) return oneOf(2) ? "left" : "" + in(0, 4);
-        return (oneOf(2) ? "mine " : "yours ") + name(random.nextInt(signs));
+        return (oneOf(2) ? "mine" : "yours") + blank() + name(random.nextInt(signs));
     }
 
     /** A token or byte is taken out, doubled, or another put in its stead. */

@@ -20,6 +20,7 @@ public final class ResultEdgesTest {
         medalsOfATree();
         medalsOfAPoolWhenAllIsDone();
         firstByWins();
+        winsAheadOfPointsAlike();
         thenByPoints();
         thenWhoWonOfBoth();
         justTwoAlike();
@@ -28,7 +29,10 @@ public final class ResultEdgesTest {
         pointsOfNone();
         orderOfOtherResults();
         poolAmongOthers();
+        twoAlikeWhateverTheirNumbers();
+        poolBehindATreeTakenBack();
         strikeInTheLastClass();
+        besideAFullClass();
         check.end();
     }
 
@@ -305,6 +309,23 @@ public final class ResultEdgesTest {
         order("by wins", x, 2, 0, 1);
     }
 
+    /** Of two with as many POINTS but not as many wins, who won of both does not count. */
+    private static void winsAheadOfPointsAlike() {
+        JudoHall x = new JudoHall();
+        Check.laws(x, "time 9;golden 0;sign a;sign b;win 20 when mine a>0;win 10 when mine b>0;");
+        x.rest(0);
+        for (int f = 0; f < 4; f++) x.weigh(x.enter(0, 0), 1);
+        x.draw(0);
+        int[] sides = {1, 1, 0, 0, 1, 0};
+        int[] signs = {0, 0, 0, 1, 1, 1};
+        for (int i = 0; i < 6; i++) {
+            x.begin(0, i, 0);
+            x.event(0, sides[i], signs[i]);
+        }
+        // wins and POINTS: 0 has 2 and 20, 1 has 1 and 20 and won of 0, 2 has 2 and 40, 3 has 1 and 10
+        order("as many POINTS", x, 2, 0, 1, 3);
+    }
+
     /** "Then the sum of POINTS": one POINT more is enough, and outdoes who won of both. */
     private static void thenByPoints() {
         JudoHall x = pool(new int[] {1, 1, 1}, new int[] {0, 1, 2}, new int[] {1, 1, 0});
@@ -396,6 +417,47 @@ public final class ResultEdgesTest {
         for (int k = 0; k < want.length; k++) check.due("one win each, medal " + k, x.medal(1, k), want[k]);
     }
 
+    /** "Of just two alike so far, who won of both": also when others have come ahead of those of the POOL. */
+    private static void twoAlikeWhateverTheirNumbers() {
+        for (int ahead = 0; ahead < 7; ahead++) {
+            for (int c = 0; c < 4; c++) {
+                JudoHall x = new JudoHall();
+                Check.laws(x, Check.IPPON);
+                x.rest(0);
+                for (int k = 0; k < ahead; k++) x.enter(0, (c + 1) % 4);
+                for (int grams : new int[] {1, 9, 1, 9}) x.weigh(x.enter(0, c), grams);
+                x.draw(c);
+                int[] sides = {1, 0, 0, 0, 1, 0};
+                for (int i = 0; i < 6; i++) Check.win(x, c, i, sides[i]);
+                // two wins each have 0 and 1, of which 1 won of both; one each 2 and 3, of which 2 won
+                int[] want = {1, 0, 2, 3};
+                for (int k = 0; k < 4; k++) check.due("behind " + ahead + " in " + c + ", medal " + k, x.medal(c, k), ahead + want[k]);
+            }
+        }
+    }
+
+    /** A TREE's WALKS, and who was to meet in it, are gone when its draw is taken back: those who are left make a POOL. */
+    private static void poolBehindATreeTakenBack() {
+        for (int n = 2; n <= 5; n++) {
+            JudoHall x = new JudoHall();
+            Check.laws(x, Check.IPPON);
+            x.rest(0);
+            x.limit(0, 0, 5);
+            for (int f = 0; f < 6; f++) x.weigh(x.enter(0, 0), 5);
+            x.draw(0);
+            check.due("WALKS of the TREE", x.about(0, 6), 2);
+            x.undo();
+            for (int f = n; f < 6; f++) x.weigh(f, 6);
+            check.due("a POOL of " + n, x.draw(0), n * (n - 1) / 2);
+            check.due("no WALKS", x.about(0, 6), 0);
+            check.due("nobody on a PLACE", x.fighter(n, 5), Check.NONE);
+            // of three each wins once, so a WALK of one who had a BYE would be told; of others BLUE wins all
+            for (int i = 0; i < x.about(0, 4); i++) Check.win(x, 0, i, n == 3 && i < 2 ? 0 : 1);
+            for (int k = 0; k < n; k++) check.due("medal " + k + " of " + n, x.medal(0, k), n == 3 ? k : n - 1 - k);
+            check.due("none behind the last", x.medal(0, n), Check.NONE);
+        }
+    }
+
     /** The last FIGHT of the last CLASS is struck as others are, whatever is on the MATS. */
     private static void strikeInTheLastClass() {
         for (int mat = 0; mat < 4; mat++) {
@@ -412,6 +474,23 @@ public final class ResultEdgesTest {
             check.due("the first one", x.strike(3, 0), 8);
             check.due("left", x.about(3, 5), 28);
             check.due("of the other CLASS", x.mat(3 - mat, 0), 2);
+        }
+    }
+
+    /** A CLASS of 32 that is over tells nothing of the one behind it. */
+    private static void besideAFullClass() {
+        JudoHall x = Check.drawn(0, 32);
+        for (int i = 0; i < 37; i++) Check.win(x, 0, i, 0);
+        for (int many = 2; many <= 6; many += 4) {
+            Check.fill(x, 1, many);
+            x.draw(1);
+            check.due("none is DONE", x.about(1, 5), 0);
+            check.due("WALKS", x.about(1, 6), many == 2 ? 0 : 2);
+            check.due("no medal", x.medal(1, 0), Check.NONE);
+            check.due("the full one's", x.about(0, 5), 37);
+            check.due("the first may begin", x.fight(1, many == 2 ? 0 : 1, 3), 1);
+            x.undo();
+            for (int k = 0; k < 2 * many; k++) x.undo();
         }
     }
 }
